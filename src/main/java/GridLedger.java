@@ -1422,7 +1422,7 @@ public final class GridLedger {
                     cutOut(slot, length - Math.min(Math.max(n, 0), length), n);
                     break;
                 case MID:
-                    cutOut(slot, n - 1, stack.number[slot + 2]);
+                    cutOut(slot, Math.max(n, 0) - 1, stack.number[slot + 2]);
                     break;
                 case FIND:
                     find(slot);
