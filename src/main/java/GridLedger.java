@@ -101,7 +101,7 @@ public final class GridLedger {
         need(content != BAD);
         edits.open(ring[now], draft);
         land(content != NO_ROOM && edits.replaced(place(column, row), content));
-        return told();
+        return results.follow(ring[now]);
     }
 
     public int fill(int column, int row, int c, int r, int d, int s)
@@ -112,7 +112,7 @@ public final class GridLedger {
         need(c <= d && r <= s);
         edits.open(ring[now], draft);
         land(edits.filled(place(column, row), c, r, d, s));
-        return told();
+        return results.follow(ring[now]);
     }
 
     public int insert(boolean columns, int i, int n) throws IllegalArgumentException, IllegalStateException {
@@ -120,7 +120,7 @@ public final class GridLedger {
         need(n >= 1 && n <= LINES_AT_ONCE);
         edits.open(ring[now], draft);
         land(edits.shifted(columns, true, i, n));
-        return told();
+        return results.follow(ring[now]);
     }
 
     public int erase(boolean columns, int i, int n) throws IllegalArgumentException, IllegalStateException {
@@ -128,7 +128,7 @@ public final class GridLedger {
         need(n >= 1 && n <= LINES_AT_ONCE && n <= lines(columns) - i);
         edits.open(ring[now], draft);
         land(edits.shifted(columns, false, i, n));
-        return told();
+        return results.follow(ring[now]);
     }
 
     public int undo() throws IllegalStateException {
@@ -138,7 +138,8 @@ public final class GridLedger {
         now = (now + STATES - 1) % STATES;
         back--;
         ahead++;
-        return told();
+        done++;
+        return results.follow(ring[now]);
     }
 
     public int redo() throws IllegalStateException {
@@ -148,7 +149,8 @@ public final class GridLedger {
         now = (now + 1) % STATES;
         back++;
         ahead--;
-        return told();
+        done++;
+        return results.follow(ring[now]);
     }
 
     public long value(int column, int row, int what) throws IllegalArgumentException {
@@ -260,12 +262,7 @@ public final class GridLedger {
         draft = oldest;
         back = Math.min(back + 1, UNDOS);
         ahead = 0;
-    }
-
-    private int told() {
         done++;
-        results.follow(ring[now]);
-        return results.changes;
     }
 
     private int formulas() {
@@ -389,7 +386,8 @@ public final class GridLedger {
         }
 
         void setFrom(int i, Values other, int j) {
-            set(i, other.kind[j], other.number[j]);
+            kind[i] = other.kind[j];
+            number[i] = other.number[j];
             if (kind[i] == TEXT) {
                 System.arraycopy(other.text[j], 0, text[i], 0, (int) number[i]);
             }
@@ -662,6 +660,8 @@ public final class GridLedger {
         final int[] kind = new int[TOKENS + AHEAD];
         final int[] from = new int[TOKENS + AHEAD];
         final int[] to = new int[TOKENS + AHEAD];
+        /** The place of the CELL that a REF names, -1 of other words. */
+        final int[] place = new int[TOKENS + AHEAD];
         int size;
 
         Tokens(byte[] bytes) {
@@ -681,7 +681,13 @@ public final class GridLedger {
                     return false;
                 }
                 from[size] = at;
-                at = takeToken(at, stop);
+                if (bytes[at] == '"') {
+                    at = takeString(at, stop);
+                } else if (isWordByte(bytes[at])) {
+                    at = takeWord(at, stop);
+                } else {
+                    at = takeSign(at, stop);
+                }
                 to[size] = at;
                 if (kind[size] == NO_TOKEN) {
                     return false;
@@ -692,16 +698,6 @@ public final class GridLedger {
                 kind[k] = LAST;
             }
             return true;
-        }
-
-        private int takeToken(int at, int stop) {
-            if (bytes[at] == '"') {
-                return takeString(at, stop);
-            }
-            if (isWordByte(bytes[at])) {
-                return takeWord(at, stop);
-            }
-            return takeSign(at, stop);
         }
 
         private int takeString(int at, int stop) {
@@ -719,16 +715,14 @@ public final class GridLedger {
             while (behind < stop && isWordByte(bytes[behind])) {
                 behind++;
             }
-            kind[size] = wordKind(at, behind);
+            place[size] = placeIn(at, behind);
+            kind[size] = place[size] >= 0 ? REF : wordKind(at, behind);
             return behind;
         }
 
         private int wordKind(int start, int stop) {
             if (Values.isNumber(bytes, start, stop)) {
                 return DIGITS;
-            }
-            if (placeIn(start, stop) >= 0) {
-                return REF;
             }
             if (!isName(start, stop)) {
                 return NO_TOKEN;
@@ -832,11 +826,7 @@ public final class GridLedger {
                 return -1;
             }
             long row = Values.numberIn(bytes, at, stop);
-            return row > HEIGHT ? -1 : place(column, (int) row - 1);
-        }
-
-        int placeOf(int token) {
-            return placeIn(from[token], to[token]);
+            return row > HEIGHT ? -1 : GridLedger.place(column, (int) row - 1);
         }
 
         /** Where a REF has its $. */
@@ -1004,7 +994,7 @@ public final class GridLedger {
         }
 
         private int addRef(int token, int corner) {
-            return contents.addRef(tokens.placeOf(token), tokens.fixedOf(token) | corner);
+            return contents.addRef(tokens.place[token], tokens.fixedOf(token) | corner);
         }
 
         private void readCall(int work, int depth) {
@@ -1144,7 +1134,11 @@ public final class GridLedger {
                 long detail = contents.operand[step];
                 int op = contents.op[step];
                 if (op == APPLY) {
-                    apply(WORKS[(int) detail]);
+                    Work work = WORKS[(int) detail];
+                    top -= work.takes.length() - 1;
+                    if (isReady(work, top - 1)) {
+                        workOut(work, top - 1);
+                    }
                     step++;
                 } else if (op == JUMP) {
                     step = (int) detail;
@@ -1220,23 +1214,22 @@ public final class GridLedger {
             return wanted == index ? taken : next;
         }
 
-        private void apply(Work work) {
+        /** Whether no argument is an ERROR and all are what is asked; else the outcome stands there already. */
+        private boolean isReady(Work work, int slot) {
             int many = work.takes.length();
-            int slot = top - many;
-            top = slot + 1;
             for (int k = 0; k < many; k++) {
                 if (stack.kind[slot + k] == ERROR && work.takes.charAt(k) != 'v') {
                     stack.set(slot, ERROR, stack.number[slot + k]);
-                    return;
+                    return false;
                 }
             }
             for (int k = 0; k < many; k++) {
                 if (!stack.turn(slot + k, work.takes.charAt(k))) {
                     stack.set(slot, ERROR, WRONG_VALUE);
-                    return;
+                    return false;
                 }
             }
-            workOut(work, slot);
+            return true;
         }
 
         private void workOut(Work work, int slot) {
@@ -1618,22 +1611,10 @@ public final class GridLedger {
                 case COLUMNS:
                     return lastColumn - firstColumn + 1;
                 case COUNT:
-                    return numbers();
+                    return ofKind(NUMBER);
                 default:
-                    return size() - empties();
+                    return (lastRow - firstRow + 1) * (lastColumn - firstColumn + 1) - ofKind(EMPTY);
             }
-        }
-
-        private int size() {
-            return (lastRow - firstRow + 1) * (lastColumn - firstColumn + 1);
-        }
-
-        private int numbers() {
-            return ofKind(NUMBER);
-        }
-
-        private int empties() {
-            return ofKind(EMPTY);
         }
 
         private int ofKind(int kind) {
@@ -2150,7 +2131,8 @@ public final class GridLedger {
             }
         }
 
-        void follow(State state) {
+        /** Answers how many VALUES are others than those of the state that was shown before. */
+        int follow(State state) {
             State old = shown;
             Values oldValues = values;
             values = before;
@@ -2174,6 +2156,7 @@ public final class GridLedger {
                 }
             }
             compareWith(old);
+            return changes;
         }
 
         /** A CELL with CONTENT is never EMPTY, so where one comes or goes, the VALUE is another. */
