@@ -81,6 +81,12 @@ public final class CyclesTest {
         Check.same("one ring", sheet.put("A200", "=B200"), "400");
         Check.same("all", sheet.ledger.count(6), 400);
         Check.same("undone", sheet.undo(), "400");
+        Sheet selves = new Sheet();
+        selves.put("A1", "=A1");
+        selves.put("B1", "=A1");
+        selves.fill("A1", "A2", "A199");
+        Check.same("each itself", selves.ledger.count(6), 200);
+        Check.same("A199", selves.show("A199"), "#cycle");
         Sheet dense = new Sheet();
         dense.put("A1", "1");
         dense.put("A2", "=SUM(A$1:A1)%+1");

@@ -316,6 +316,10 @@ public final class FormulaFunctionsTest {
         worth("INDEX(A1:B6,4294967297,1)", "#ref");
         worth("INDEX(A1:B6," + MOST + "," + LEAST + ")", "#ref");
         worth("INDEX(A1,1,1)", "3");
+        worth("INDEX(A2:B3,2,2)", "'X'");
+        worth("INDEX(A2:B3,3,1)", "#ref");
+        worth("INDEX(B2:C3,1,2)", "1");
+        worth("INDEX(B2:C3,1,3)", "#ref");
         worth("INDEX(A1:B6,\"1\",TRUE)", "3");
         worth("INDEX(A1:B6,\"x\",1)", "#value");
         worth("INDEX(A1:B6,NA(),1/0)", "#none");
@@ -349,6 +353,10 @@ public final class FormulaFunctionsTest {
         worth("LOOKUP(99,A1:B6,3)", "#none");
         worth("LOOKUP(\"x\",A1:B6,1)", "#none");
         worth("LOOKUP(10,B6:C1,2)", "1");
+        worth("LOOKUP(\"text\",A2:B6,2)", "'X'");
+        worth("LOOKUP(20,B3:C6,1)", "20");
+        worth("LOOKUP(20,B3:C6,3)", "#ref");
+        worth("MATCH(20,B3:C6)", "3");
         worth("LOOKUP(\"x\",B1:C6,2)", "#div");
         worth("LOOKUP(1,C1:D4,2)", "0");
         worth("LOOKUP(3,A1:B6,\"x\")", "#value");
@@ -374,6 +382,8 @@ public final class FormulaFunctionsTest {
         worth("SUMIF(C1:C4,C1)", "#div");
         worth("SUMIF(A1,3)", "3");
         worth("COUNTIF(A1:C6,TRUE)", "1");
+        worth("COUNTIF(A1:B6,\"x\")", "2");
+        worth("SUMIF(A1:C6,30)", "30");
         worth("COUNTIF(A1:A6,\"5\")", "1");
         worth("COUNTIF(A1:A6,5)", "0");
     }

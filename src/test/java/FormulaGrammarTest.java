@@ -9,6 +9,7 @@ public final class FormulaGrammarTest {
         depth();
         manyTokens();
         longStrings();
+        nothingOfEarlierInput();
         Check.finish();
     }
 
@@ -174,6 +175,23 @@ public final class FormulaGrammarTest {
         syntax("NOSUCH(" + "1,".repeat(49) + "1)");
         worth("SUM(A1:B1)" + "+0".repeat(47), "7");
         syntax("SUM(A1:B1)" + "+0".repeat(48));
+    }
+
+    private static void nothingOfEarlierInput() {
+        String[][] twos = {
+            {"$A1", "$"}, {"A$1", "A$"}, {"A1", "A"}, {"\"x\"", "\"x"}, {"1<=2", "1<"}, {"A12", "A0"}, {"SUM(A1)", "SUM(A1"},
+            {"1" + "%".repeat(99), "1" + "%".repeat(100)}
+        };
+        for (String[] two : twos) {
+            Sheet sheet = new Sheet();
+            sheet.put("D5", "=" + two[0]);
+            boolean right = !sheet.show("D5").equals("#syntax");
+            Check.same(two[0], right, true);
+            Check.same(two[1], sheet.worth("D5", "=" + two[1]), "#syntax");
+        }
+        Sheet sheet = new Sheet();
+        sheet.put("D5", "=1" + "+1".repeat(49) + "%");
+        Check.same("101", sheet.worth("D5", "=-1" + "+1".repeat(49) + "%"), "#syntax");
     }
 
     private static void longStrings() {

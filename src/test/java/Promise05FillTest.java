@@ -30,6 +30,12 @@ public final class Promise05FillTest {
         Check.same("the whole sheet empty", sheet.fill("Z200", "A1", "Z200"), "6");
         Check.same("none left", sheet.ledger.count(4), 0);
         sheet.undo();
+        for (int i = 0; i < 45; i++) {
+            sheet.put("Z200", "z");
+            sheet.put("Z200", "");
+        }
+        Check.same("nothing, where there was something", sheet.fill("Z200", "C3", "C3"), "1");
+        Check.same("C3", sheet.show("C3"), "empty");
         sheet.put("D4", "=1+");
         Check.same("a SYNTAX", sheet.fill("D4", "D5", "D5"), "1");
         Check.same("D5", sheet.show("D5"), "#syntax");
@@ -127,6 +133,13 @@ public final class Promise05FillTest {
         Check.same("B1", sheet.show("B1"), "empty");
         Check.same("400", sheet.fill("A1", "A2", "B200"), "398");
         Check.same("bad goes first", Sheet.of(() -> sheet.ledger.fill(0, 0, 0, 0, 26, 199)), "IllegalArgumentException");
+        Sheet full = new Sheet();
+        full.put("B1", "1");
+        full.fill("B1", "B1", "C199");
+        Check.same("too many half way", full.fill("B1", "A1", "A200"), "IllegalStateException");
+        Check.same("nothing changed", full.ledger.count(4), 398);
+        Check.same("two more", full.fill("B1", "A1", "A2"), "2");
+        Check.same("the last row", full.show("C199"), "1");
         Sheet other = new Sheet();
         other.put("A1", "=SUM(C1:Z100)");
         Check.same("2400 nine times", other.fill("A1", "A1", "A9"), "IllegalStateException");
