@@ -10,6 +10,8 @@ public final class RandomRunsTest {
     private final int left;
     private final int top;
     private final String name;
+    /** Fills many CELLS, so that the limits are met. */
+    private final boolean big;
     private int calls;
 
     private RandomRunsTest(int seed) {
@@ -17,7 +19,8 @@ public final class RandomRunsTest {
         random = new Random(seed);
         left = new int[] {0, 11, 22}[random.nextInt(3)];
         top = new int[] {0, 97, 194}[random.nextInt(3)];
-        formulas = new Formulas(random, left, top);
+        formulas = new Formulas(random, left, top, seed % 5 == 0 ? 1 : 40);
+        big = seed % 5 == 1;
     }
 
     public static void main(String[] args) {
@@ -30,7 +33,7 @@ public final class RandomRunsTest {
     }
 
     private void run() {
-        int edits = 20 + random.nextInt(40);
+        int edits = 20 + random.nextInt(big ? 80 : 40);
         for (int i = 0; i < edits && Check.allRight(); i++) {
             step();
             compareAll();
@@ -62,14 +65,27 @@ public final class RandomRunsTest {
                 break;
             case 3:
             case 4:
-                compare("undo", sheet.undo(), model.undo());
+                undoSome(1 + random.nextInt(3));
                 break;
             case 5:
-                compare("redo", sheet.redo(), model.redo());
+                undoSome(1 + random.nextInt(6));
+                redoSome(1 + random.nextInt(6));
                 break;
             default:
                 put();
                 break;
+        }
+    }
+
+    private void undoSome(int many) {
+        for (int i = 0; i < many; i++) {
+            compare("undo", sheet.undo(), model.undo());
+        }
+    }
+
+    private void redoSome(int many) {
+        for (int i = 0; i < many; i++) {
+            compare("redo", sheet.redo(), model.redo());
         }
     }
 
@@ -83,11 +99,12 @@ public final class RandomRunsTest {
     }
 
     private void fill() {
-        int from = column() + 26 * row();
+        boolean ofChanged = big && !model.changed.isEmpty();
+        int from = ofChanged ? model.changed.get(random.nextInt(model.changed.size())) : column() + 26 * row();
         int c = column();
         int d = Math.min(25, c + random.nextInt(3));
-        int r = row();
-        int s = Math.min(199, r + random.nextInt(random.nextInt(10) == 0 ? 150 : 4));
+        int r = big ? random.nextInt(40) : row();
+        int s = Math.min(199, r + random.nextInt(big ? 199 : 4));
         String got = Sheet.of(() -> sheet.ledger.fill(from % 26, from / 26, c, r, d, s));
         compare("fill " + Sheet.name(from) + " " + Sheet.name(c + 26 * r) + " " + Sheet.name(d + 26 * s), got,
                 model.fill(from, c, r, d, s));

@@ -19,6 +19,9 @@ final class Formulas {
         "4611686018427387904", "9223372036854775807", "9223372036854775806", "00012"
     };
 
+    private static final String[] BAD = {
+        "\n", "=1\t", "a\u007f", "\u0080", "=\u00ffA1", "x".repeat(65), "=" + "1".repeat(201), "=A1" + " ".repeat(199)
+    };
     private static final String[] EXTREMES = {
         "9223372036854775807", "-9223372036854775807", "(-9223372036854775807-1)", "\"-9223372036854775808\"",
         "9223372036854775808", "2147483648", "4294967297", "-2147483649", "64", "65"
@@ -27,11 +30,14 @@ final class Formulas {
     private final Random random;
     private final int left;
     private final int top;
+    /** One in so many REFS is anywhere in the sheet. */
+    private final int far;
 
-    Formulas(Random random, int left, int top) {
+    Formulas(Random random, int left, int top, int far) {
         this.random = random;
         this.left = left;
         this.top = top;
+        this.far = far;
     }
 
     private String one(String[] of) {
@@ -40,6 +46,9 @@ final class Formulas {
 
     /** What may be TYPED. */
     String content() {
+        if (random.nextInt(50) == 0) {
+            return one(BAD);
+        }
         switch (random.nextInt(12)) {
             case 0:
                 return "";
@@ -112,8 +121,8 @@ final class Formulas {
     }
 
     private String ref() {
-        int column = random.nextInt(40) == 0 ? random.nextInt(26) : left + random.nextInt(4);
-        int row = random.nextInt(40) == 0 ? random.nextInt(200) : top + random.nextInt(6);
+        int column = random.nextInt(far) == 0 ? random.nextInt(26) : left + random.nextInt(4);
+        int row = random.nextInt(far) == 0 ? random.nextInt(200) : top + random.nextInt(6);
         return (random.nextInt(4) == 0 ? "$" : "") + (char) ('A' + column) + (random.nextInt(4) == 0 ? "$" : "") + (row + 1);
     }
 
