@@ -2,6 +2,7 @@
 final class Check {
     private static int wrong = 0;
     private static int looked = 0;
+    private static String sentence = "";
 
     private Check() {
     }
@@ -9,9 +10,28 @@ final class Check {
     static void same(String what, Object got, Object due) {
         looked++;
         if (!String.valueOf(got).equals(String.valueOf(due))) {
-            wrong++;
-            System.out.println(what + " answered " + got + ", due is " + due);
+            tell(what + " answered " + got + ", due is " + due);
         }
+    }
+
+    /** The test of one sentence of the document: what is wrong in it is told with the sentence. */
+    static void sentence(String words, Runnable test) {
+        int lookedBefore = looked;
+        sentence = words + " -- ";
+        try {
+            test.run();
+        } catch (RuntimeException e) {
+            tell("threw " + e);
+        }
+        if (looked == lookedBefore) {
+            tell("nothing was looked at");
+        }
+        sentence = "";
+    }
+
+    private static void tell(String what) {
+        wrong++;
+        System.out.println(sentence + what);
     }
 
     static boolean allRight() {

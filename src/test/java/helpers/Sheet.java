@@ -133,6 +133,17 @@ final class Sheet {
         return all.toString();
     }
 
+    /** All that can be seen of these cells, and of the object but for what undo and redo would do. */
+    String picture(String... cells) {
+        StringBuilder all = new StringBuilder(counts()).append(" changed ").append(changes());
+        for (String cell : cells) {
+            int kind = ledger.content(column(cell), row(cell), 0);
+            all.append("; ").append(cell).append(' ').append(show(cell)).append(" of ").append(kind).append(' ')
+                    .append(refs(cell));
+        }
+        return all.toString();
+    }
+
     /** All that count tells. */
     String counts() {
         StringBuilder all = new StringBuilder();
