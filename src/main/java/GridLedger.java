@@ -2164,7 +2164,7 @@ public final class GridLedger {
             changes = 0;
             int i = 0;
             int k = 0;
-            while (i < old.cells || k < shown.cells) {
+            for (int left = old.cells + shown.cells; left > 0 && (i < old.cells || k < shown.cells); left--) {
                 int oldPlace = i < old.cells ? old.place[i] : PLACES;
                 int place = k < shown.cells ? shown.place[k] : PLACES;
                 if (oldPlace != place || !values.same(k, before, i)) {

@@ -160,6 +160,9 @@ public final class EdgesOfFillTest {
         Check.same("one ROW up", sheet.refs("C2"), "B1 B1 B2 B2 B1 C4 B1 C4");
         sheet.fill("D5", "C3", "C3");
         Check.same("and back", sheet.refs("C3"), "B2 B2 B2 B2 B2 C4 B2 C4");
+        sheet.put("C3", "=SUM(B2)+SUM($B2)+SUM(B$2)+SUM($B$2)");
+        sheet.fill("C3", "D5", "D5");
+        Check.same("a REF as RANGE", sheet.refs("D5"), "C4 B4 C2 B2");
     }
 
     private static String filled(String from, String content, String to) {

@@ -7,6 +7,7 @@ public final class EdgesOfFormulasTest {
         Check.sentence("no spaces within a TOKEN", EdgesOfFormulasTest::spacesWithin);
         Check.sentence("no TOKEN at all: SYNTAX", EdgesOfFormulasTest::noToken);
         Check.sentence("digits that make a long", EdgesOfFormulasTest::digits);
+        Check.sentence("two PRIMARIES have an operator between them", EdgesOfFormulasTest::sideBySide);
         Check.sentence("a STRING: bytes but \", at most 64: none, 64, 65", EdgesOfFormulasTest::stringLengths);
         Check.sentence("a STRING: then \"", EdgesOfFormulasTest::stringEnds);
         Check.sentence("REF: a letter A .. Z", EdgesOfFormulasTest::refLetters);
@@ -25,11 +26,13 @@ public final class EdgesOfFormulasTest {
         Check.sentence("a RANGE: REF ':' REF", EdgesOfFormulasTest::rangeCorners);
         Check.sentence("each from the left", EdgesOfFormulasTest::fromTheLeft);
         Check.sentence("the loosest first", EdgesOfFormulasTest::loosestFirst);
+        Check.sentence("the loosest first, each from the left: any two signs", EdgesOfFormulasTest::anyTwoSigns);
         Check.sentence("then - before it; then % behind it", EdgesOfFormulasTest::minusAndPercent);
         Check.sentence("% behind it, any number of times", EdgesOfFormulasTest::percents);
         Check.sentence("an operator has both its operands", EdgesOfFormulasTest::operands);
         Check.sentence("DEPTH: the ( that a TOKEN is in; at most 20", EdgesOfFormulasTest::depthOfBrackets);
         Check.sentence("DEPTH: the ( of a call, too", EdgesOfFormulasTest::depthOfCalls);
+        Check.sentence("DEPTH: of arguments of which one is taken", EdgesOfFormulasTest::depthOfPicks);
         Check.sentence("DEPTH: ( and its ) are not in it", EdgesOfFormulasTest::depthOfNothing);
         Check.sentence("DEPTH: the - before it; at most 20", EdgesOfFormulasTest::depthOfMinus);
         Check.sentence("DEPTH: ( and - together", EdgesOfFormulasTest::depthOfBoth);
@@ -89,6 +92,12 @@ public final class EdgesOfFormulasTest {
         syntax("9223372036854775808", "-9223372036854775808", "18446744073709551617", "99999999999999999999");
         worth("-" + MOST, "-" + MOST);
         syntax("1.5", "1e5", "5A");
+    }
+
+    private static void sideBySide() {
+        syntax("1 2", "1 2 3", "\"a\" \"b\"", "\"a\" \"b\" \"c\"", "A1 B1", "A1 B1 A1", "TRUE FALSE", "TRUE FALSE TRUE",
+                "1 TRUE 2", "1 A1 2", "1 NO 2", "NA() NA()", "1 NA() 2", "1 \"a\" 2", "1 : 2", "1 , 2", ":", ",", "SUM(A1 1 B1)",
+                "5(", "%5)", "5(%");
     }
 
     private static void stringLengths() {
@@ -218,6 +227,33 @@ public final class EdgesOfFormulasTest {
         worth("(2+3)*4", "20");
     }
 
+    private static String value(String formula) {
+        return new Sheet().worth("D5", "=" + formula);
+    }
+
+    /** Two signs without brackets are worth what they are with brackets where they bind; some operands tell which. */
+    private static void anyTwoSigns() {
+        String[] signs = {"=", "<>", "<", "<=", ">", ">=", "&", "+", "-", "*", "/", "^"};
+        int[] tightness = {1, 1, 1, 1, 1, 1, 2, 3, 3, 4, 4, 5};
+        String[][] operands = {
+            {"2", "3", "2"}, {"7", "2", "3"}, {"\"12\"", "1", "2"}, {MOST, "1", "1"}, {"1", "TRUE", "FALSE"},
+            {"FALSE", "1", "TRUE"}, {"TRUE", "FALSE", "1"}, {"TRUE", "1", "FALSE"}, {"FALSE", "FALSE", "1"}, {"TRUE", "2", "1"}
+        };
+        for (int i = 0; i < signs.length; i++) {
+            for (int k = 0; k < signs.length; k++) {
+                boolean told = i == k;
+                for (String[] o : operands) {
+                    String left = "(" + o[0] + signs[i] + o[1] + ")" + signs[k] + o[2];
+                    String right = o[0] + signs[i] + "(" + o[1] + signs[k] + o[2] + ")";
+                    String due = value(tightness[i] >= tightness[k] ? left : right);
+                    Check.same(o[0] + signs[i] + o[1] + signs[k] + o[2], value(o[0] + signs[i] + o[1] + signs[k] + o[2]), due);
+                    told = told || !value(left).equals(value(right));
+                }
+                Check.same("the operands tell how " + signs[i] + " and " + signs[k] + " bind", told, true);
+            }
+        }
+    }
+
     private static void minusAndPercent() {
         worth("-2^2", "4");
         worth("0-2^2", "-4");
@@ -268,6 +304,15 @@ public final class EdgesOfFormulasTest {
         syntax(within(20, "ABS(1)"), within(20, "NOSUCH(1)"));
         worth("IF(TRUE,1," + within(19, "1") + ")", "1");
         syntax("IF(TRUE,1," + within(20, "1") + ")");
+    }
+
+    private static void depthOfPicks() {
+        worth(within(19, "IF(FALSE,1,2)"), "2");
+        worth(within(19, "CHOOSE(3,1,2,3)"), "3");
+        worth(within(19, "IFERROR(1/0,4)"), "4");
+        syntax(within(20, "IF(TRUE,1,2)"), within(20, "CHOOSE(1,1,2,3)"), within(20, "IFERROR(1,2)"));
+        worth("IF(1,".repeat(14) + "7" + ",0)".repeat(14), "7");
+        worth("CHOOSE(3,1,2,CHOOSE(2,3,CHOOSE(1,4,5,6),7))", "4");
     }
 
     private static void depthOfNothing() {
@@ -325,6 +370,10 @@ public final class EdgesOfFormulasTest {
         syntax("1" + "+1".repeat(50), "-1" + "+1".repeat(49) + "%", "1" + "%".repeat(100));
         syntax("NOSUCH(" + "1,".repeat(48) + "1)%", "-SUM(A1:B1)" + "+0".repeat(47));
         syntax("-" + within(1, "1" + "+1".repeat(48)) + "%", "\"\"" + "&\"\"".repeat(48) + "&--5");
+        Sheet sheet = new Sheet();
+        Check.same("100", sheet.worth("D5", "=1" + "+1".repeat(49) + "%"), "49");
+        Check.same("101 behind it", sheet.worth("D5", "=-1" + "+1".repeat(49) + "%"), "#syntax");
+        Check.same("and 100 again", sheet.worth("D5", "=-1" + "+1".repeat(49)), "48");
     }
 
     private static void otherBytes() {

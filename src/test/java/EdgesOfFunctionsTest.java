@@ -1,3 +1,6 @@
+import java.util.ArrayList;
+import java.util.List;
+
 /** The boundary cases of FUNCTIONS without RANGES, a test for each, and of calls that are wrong. */
 public final class EdgesOfFunctionsTest {
     private static final String MOST = "9223372036854775807";
@@ -11,6 +14,7 @@ public final class EdgesOfFunctionsTest {
 
     public static void main(String[] args) {
         Check.sentence("other NAMES: ERROR name", EdgesOfFunctionsTest::otherNames);
+        Check.sentence("other NAMES: a letter away from one that is known", EdgesOfFunctionsTest::aLetterAway);
         Check.sentence("another number of arguments: ERROR value", EdgesOfFunctionsTest::otherNumbers);
         Check.sentence("no r where r stands: ERROR value", EdgesOfFunctionsTest::noRange);
         Check.sentence("a RANGE where none does: ERROR value", EdgesOfFunctionsTest::rangeWhereNone);
@@ -64,6 +68,27 @@ public final class EdgesOfFunctionsTest {
         worth("COUNTIFS(A1,1)", "#name");
         worth("NOSUCHNAMEAB(1)", "#name");
         worth("ABS(NO(1))", "#name");
+    }
+
+    private static void aLetterAway() {
+        List<String> known = new ArrayList<>();
+        for (String function : FUNCTIONS) {
+            known.add(function.split(" ", -1)[0]);
+        }
+        for (String name : known) {
+            String first = "Q" + name.substring(1);
+            String last = name.substring(0, name.length() - 1) + "Q";
+            String less = name.substring(0, name.length() - 1);
+            for (String other : new String[] {first, last, name + "Q", "Q" + name, less}) {
+                if (other.length() > 1 && !known.contains(other)) {
+                    worth(other + "()", "#name");
+                }
+            }
+        }
+        worth("TRUQ()", "#name");
+        worth("QRUE()", "#name");
+        worth("FALSES()", "#name");
+        worth("QALSE()", "#name");
     }
 
     /** A call with so many arguments, each of which would be fine where the FUNCTION has one. */

@@ -15,6 +15,7 @@ public final class EdgesOfLimitsTest {
         Check.sentence("20000: the RANGES in one FORMULA together", EdgesOfLimitsTest::rangesInOne);
         Check.sentence("20000: one in several of them as often", EdgesOfLimitsTest::rangesAsOften);
         Check.sentence("20000: wherever they stand", EdgesOfLimitsTest::rangesWherever);
+        Check.sentence("20000: wherever their CELLS are", EdgesOfLimitsTest::rangesAnywhere);
         Check.sentence("20000: REFS, SYNTAX and what is GONE have none", EdgesOfLimitsTest::rangesThatAreNone);
         Check.sentence("20000: by fill", EdgesOfLimitsTest::rangesByFill);
         Check.sentence("20000: by insert", EdgesOfLimitsTest::rangesByInsert);
@@ -154,6 +155,16 @@ public final class EdgesOfLimitsTest {
         };
         for (String formula : formulas) {
             Check.same(formula, almost().put("A2", formula), REFUSED);
+        }
+    }
+
+    private static void rangesAnywhere() {
+        for (String range : new String[] {"N101:Z200", "Z200:N101", "N200:Z101", "Z101:N200"}) {
+            Sheet sheet = new Sheet();
+            sheet.put("A1", "=ROWS(" + range.replace("N", "$N$").replace("Z", "$Z$") + ")");
+            Check.same("15 times 1300 by " + range, sheet.fill("A1", "A1", "A15"), "14");
+            Check.same("and 500", sheet.put("B1", "=ROWS(N101:N200)+ROWS(Q50:Z89)"), "1");
+            Check.same("and one", sheet.put("B2", "=ROWS(Z200:Z200)"), REFUSED);
         }
     }
 

@@ -185,6 +185,7 @@ public final class EdgesOfRangesTest {
         worth(numbers(), "COUNT(A1:B3)", "6");
         worth(none(), "COUNT(A1:E1)", "0");
         worth(with("0 =1/0 - 5 =5"), "COUNT(A1:E1)", "3");
+        worth(numbers(), "COUNT(B2:C4)", "2");
         worth(new Sheet(), "COUNT(A1:Y200)", "0");
     }
 
@@ -192,6 +193,8 @@ public final class EdgesOfRangesTest {
         worth(numbers(), "COUNTA(A1:B3)", "6");
         worth(none(), "COUNTA(A1:E1)", "4");
         worth(with("0 =1/0 - =B9"), "COUNTA(A1:D1)", "3");
+        worth(numbers(), "COUNTA(B2:C4)", "2");
+        worth(numbers(), "COUNTA(B9:C10)", "0");
         worth(new Sheet(), "COUNTA(A1:Y200)", "0");
     }
 

@@ -144,6 +144,12 @@ public final class EdgesOfReadingTest {
         Check.same("A1", sheet.show("A1") + sheet.ledger.count(6), "#cycle1");
         Check.same("the first CELL with $", with("A1", "=$A$1+1").show("A1"), "#cycle");
         Check.same("the last CELL", with("Z200", "=Z200").show("Z200"), "#cycle");
+        Sheet full = with("A1", "1");
+        full.fill("A1", "A1", "B199");
+        full.fill("A1", "A200", "A200");
+        Check.same("the last of 400", full.put("B200", "=IF(TRUE,5,B200)") + full.show("B200"), "1#cycle");
+        Check.same("one of 400", full.put("B100", "=IF(TRUE,5,B100)") + full.show("B100"), "1#cycle");
+        Check.same("no other", full.ledger.count(6), 2);
     }
 
     private static void whereverItStands() {
@@ -176,6 +182,12 @@ public final class EdgesOfReadingTest {
         Check.same("three", three.show("A1") + three.show("B1") + three.show("C2"), "#cycle#cycle#cycle");
         Sheet caught = with("A1", "=IFERROR(B1,1)", "B1", "=IFERROR(A1,2)");
         Check.same("IFERROR is no way out", caught.show("A1") + caught.show("B1"), "#cycle#cycle");
+        Sheet four = with("A1", "=IFERROR(B1,1)", "B1", "=IFERROR(C1,2)", "C1", "=IFERROR(D1,3)", "D1", "=IFERROR(A1,4)");
+        Check.same("nor of four", four.show("A1") + four.show("B1") + four.show("C1") + four.show("D1"),
+                "#cycle#cycle#cycle#cycle");
+        four.put("E1", "=IFERROR(B1,5)");
+        four.put("D1", "=IFERROR(B1,4)+E1");
+        Check.same("nor with a way back to the middle", four.show("A1") + four.ledger.count(6), "14");
     }
 
     private static void ringOf400() {
@@ -256,5 +268,12 @@ public final class EdgesOfReadingTest {
         Sheet sheet = with("A1", "1", "B1", "=A1+A1", "C1", "=A1+B1", "D1", "=A1+B1+C1+SUM(A1:C1)");
         Check.same("D1", sheet.show("D1") + sheet.ledger.count(6), "120");
         Check.same("each is told once", sheet.put("A1", "2") + sheet.changes(), "4A1 B1 C1 D1");
+        Sheet down = with("A200", "1", "A199", "=SUM(A200:A$200)%+1");
+        down.fill("A199", "A1", "A198");
+        Check.same("each reads all below it", down.show("A199") + " " + down.show("A100") + " " + down.show("A1"), "1 2 4");
+        Check.same("none reads itself", down.ledger.count(6), 0);
+        Sheet up = with("A1", "1", "A2", "=SUM(A$1:A1)%+1");
+        up.fill("A2", "A3", "A199");
+        Check.same("each reads all above it", up.show("A2") + " " + up.show("A101") + " " + up.show("A199"), "1 2 4");
     }
 }

@@ -1,21 +1,24 @@
 /** Promise 1: in a new object all CELLS are empty. */
 public final class Promise01NewObjectTest {
     public static void main(String[] args) {
-        Sheet sheet = new Sheet();
-        for (int row = 0; row < 200; row++) {
-            for (int column = 0; column < 26; column++) {
-                Check.same("kind", sheet.ledger.content(column, row, 0), 0);
-                Check.same("refs", sheet.ledger.content(column, row, 1), 0);
-                Check.same("gone", sheet.ledger.content(column, row, 2), 0);
-                Check.same("value", sheet.show(column, row), "empty");
-            }
-        }
-        Check.same("counts", sheet.counts(), "0 0 0 0 0 0 0 0");
-        Check.same("changed", Sheet.of(() -> sheet.ledger.changed(0)), "NoSuchElementException");
-        Check.same("undo", sheet.undo(), "IllegalStateException");
-        Check.same("redo", sheet.redo(), "IllegalStateException");
+        someCells();
+        nothingIsRead();
         twoObjectsAreApart();
         Check.finish();
+    }
+
+    private static void someCells() {
+        Sheet sheet = new Sheet();
+        for (String cell : new String[] {"A1", "B1", "Z1", "A2", "M100", "A200", "Y199", "Z200"}) {
+            Check.same(cell, sheet.picture(cell), "0 0 0 0 0 0 0 0 changed ; " + cell + " empty of 0 ");
+        }
+        Check.same("letter", Sheet.of(() -> sheet.ledger.letter(0, 0, 0)), "NoSuchElementException");
+        Check.same("reference", Sheet.of(() -> sheet.ledger.reference(0, 0, 0)), "NoSuchElementException");
+    }
+
+    private static void nothingIsRead() {
+        Check.same("COUNTA", new Sheet().worth("A1", "=COUNTA(B1:Z200)+COUNTA(A2:A200)"), "0");
+        Check.same("COUNTIF", new Sheet().worth("Z200", "=COUNTIF(A1:Z199,0)+COUNTIF(A200:Y200,\"\")"), "5199");
     }
 
     private static void twoObjectsAreApart() {

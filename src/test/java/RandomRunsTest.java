@@ -1,7 +1,10 @@
 import java.util.List;
 import java.util.Random;
 
-/** Long runs of calls by fixed seeds, all promises together: the program answers as the model does. */
+/**
+ * Long runs of calls by fixed seeds, all promises together: the program answers as the model does. They make
+ * more calls than the 512 that are promised, to see all CELLS: the program minds only how much was TYPED.
+ */
 public final class RandomRunsTest {
     private final Sheet sheet = new Sheet();
     private final Model model = new Model();
