@@ -261,6 +261,10 @@ public final class EdgesOfChangedTest {
         Check.same("five", sheet.ledger.count(5), 5);
         sheet.put("A3", "5");
         Check.same("four", sheet.ledger.count(5), 4);
+        Sheet full = new Sheet();
+        full.put("A1", "=5");
+        full.fill("A1", "A1", "B200");
+        Check.same("400", full.ledger.count(5), 400);
     }
 
     private static void countCycles() {
@@ -274,6 +278,15 @@ public final class EdgesOfChangedTest {
         Check.same("not by reading one alone", sheet.ledger.count(6), 2);
         sheet.put("A1", "5");
         Check.same("none", sheet.ledger.count(6), 0);
+        Sheet full = new Sheet();
+        full.put("A1", "=A1");
+        full.fill("A1", "A1", "B200");
+        Check.same("400", full.ledger.count(6), 400);
+        full.erase(true, 0, 1);
+        Check.same("200", full.ledger.count(6), 200);
+        full.erase(true, 0, 1);
+        full.put("A1", "5");
+        Check.same("none", full.ledger.count(6), 0);
     }
 
     private static void countDone() {

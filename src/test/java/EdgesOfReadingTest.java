@@ -10,6 +10,7 @@ public final class EdgesOfReadingTest {
         Check.sentence("GONE reads nothing", EdgesOfReadingTest::goneReadsNothing);
         Check.sentence("REFS are CELLS and not letters: they follow these", EdgesOfReadingTest::refsFollow);
         Check.sentence("VALUE of a CELL: EMPTY is 0 of a FORMULA", EdgesOfReadingTest::emptyIsZero);
+        Check.sentence("VALUES follow all changes: one that reads 199 others", EdgesOfReadingTest::readsMany);
         Check.sentence("If it reads itself: ERROR cycle", EdgesOfReadingTest::readsItself);
         Check.sentence("reads itself wherever it stands", EdgesOfReadingTest::whereverItStands);
         Check.sentence("reads itself in a RANGE: corners, between, beside", EdgesOfReadingTest::inARange);
@@ -137,6 +138,22 @@ public final class EdgesOfReadingTest {
         Check.same("it is a NUMBER for others", with("A1", "=B1", "A2", "=ISBLANK(A1)").show("A2"), "FALSE");
         Check.same("within a FORMULA it is not yet", with("A1", "=ISBLANK(IF(TRUE,B1,1))").show("A1"), "TRUE");
         Check.same("within a FORMULA it is not yet", with("A1", "=INDEX(B1:B2,2,1)&\"\"").show("A1"), "''");
+    }
+
+    private static void readsMany() {
+        Sheet sheet = with("A1", "=SUM(A2:A200)", "A2", "=$Z$200", "Z1", "=SUM(A2:A200)-A1");
+        sheet.fill("A2", "A3", "A200");
+        for (String number : new String[] {"1", "2", "3", "4"}) {
+            Check.same("Z200 is " + number, sheet.put("Z200", number), "201");
+            Check.same("A1", sheet.show("A1"), 199 * Integer.parseInt(number));
+            Check.same("Z1", sheet.show("Z1"), 0);
+        }
+        Sheet some = with("A1", "=A60+A70+A130+A195", "A2", "=$Z$200");
+        some.fill("A2", "A3", "A200");
+        for (String number : new String[] {"1", "2", "3"}) {
+            Check.same("Z200 is " + number, some.put("Z200", number), "201");
+            Check.same("four of them", some.show("A1"), 4 * Integer.parseInt(number));
+        }
     }
 
     private static void readsItself() {
