@@ -1352,7 +1352,7 @@ public final class GridLedger {
                 fits = Values.timesFits(outcome, a);
                 outcome *= a;
             }
-            stack.set(slot, fits ? NUMBER : ERROR, fits ? outcome : NO_LONG);
+            settle(slot, outcome, fits);
         }
 
         private void decide(Work work, int slot) {

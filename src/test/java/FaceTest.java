@@ -37,6 +37,7 @@ public final class FaceTest {
         Check.sentence("the classes inside are private or package-visible, and static", FaceTest::classesInside);
         Check.sentence("no private method bears the name of a public one", FaceTest::privateNames);
         Check.sentence("static fields are final", FaceTest::staticFields);
+        Check.sentence("at most seven parameters, some twenty fields", FaceTest::sizes);
         Check.finish();
     }
 
@@ -126,6 +127,24 @@ public final class FaceTest {
             if (Modifier.isStatic(field.getModifiers())) {
                 Check.same(one.getSimpleName() + "." + field.getName(), Modifier.isFinal(field.getModifiers()), true);
             }
+        }
+    }
+
+    private static void sizes() {
+        lookAtSizes(PROGRAM);
+        for (Class<?> one : PROGRAM.getDeclaredClasses()) {
+            lookAtSizes(one);
+        }
+    }
+
+    private static void lookAtSizes(Class<?> one) {
+        int fields = 0;
+        for (Field field : one.getDeclaredFields()) {
+            fields += Modifier.isStatic(field.getModifiers()) ? 0 : 1;
+        }
+        Check.same(one.getSimpleName() + " has at most twenty fields", fields <= 20, true);
+        for (Method method : one.getDeclaredMethods()) {
+            Check.same(one.getSimpleName() + "." + method.getName(), method.getParameterCount() <= 7, true);
         }
     }
 }
