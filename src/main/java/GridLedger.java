@@ -1534,15 +1534,17 @@ public final class GridLedger {
 
         void gather(Work work, int slot) {
             open(slot);
+            // An ERROR behind NUMBERS that make no long is the outcome all the same, so it is sought first.
+            int wrong = firstError();
+            if (wrong >= 0) {
+                stack.set(slot, ERROR, cells.number[wrong]);
+                return;
+            }
             long outcome = work == Work.PRODUCT ? 1 : 0;
             int many = 0;
             for (int row = firstRow; row <= lastRow; row++) {
                 for (int column = firstColumn; column <= lastColumn; column++) {
                     int entry = at[place(column, row)];
-                    if (cells.kind[entry] == ERROR) {
-                        stack.set(slot, ERROR, cells.number[entry]);
-                        return;
-                    }
                     if (cells.kind[entry] != NUMBER) {
                         continue;
                     }
@@ -1560,6 +1562,18 @@ public final class GridLedger {
             } else {
                 stack.set(slot, NUMBER, outcome);
             }
+        }
+
+        private int firstError() {
+            for (int row = firstRow; row <= lastRow; row++) {
+                for (int column = firstColumn; column <= lastColumn; column++) {
+                    int entry = at[place(column, row)];
+                    if (cells.kind[entry] == ERROR) {
+                        return entry;
+                    }
+                }
+            }
+            return -1;
         }
 
         private static boolean fits(Work work, long outcome, long next) {

@@ -18,6 +18,7 @@ public final class EdgesOfRangesTest {
         Check.sentence("AVERAGE: of none: div", EdgesOfRangesTest::averageOfNone);
         Check.sentence("AVERAGE: num as said", EdgesOfRangesTest::averageNoLong);
         Check.sentence("ERRORS in it being the outcome, the first one", EdgesOfRangesTest::errorsInIt);
+        Check.sentence("ERRORS in it being the outcome, before num", EdgesOfRangesTest::errorsBeforeNum);
         Check.sentence("COUNT(r): how many NUMBERS", EdgesOfRangesTest::count);
         Check.sentence("COUNTA(r): how many not EMPTY", EdgesOfRangesTest::counta);
         Check.sentence("ROW(r), COLUMN(r): of its first CELL, from 1", EdgesOfRangesTest::rowAndColumn);
@@ -178,7 +179,23 @@ public final class EdgesOfRangesTest {
             worth(with("=NOSUCH()"), name + "(A1)", "#name");
             worth(with("- - =1+"), name + "(A1:C1)", "#syntax");
         }
-        worth(with("=NA() " + MOST + " 1"), "SUM(A1:C1)", "#none");
+    }
+
+    private static void errorsBeforeNum() {
+        for (String name : new String[] {"SUM", "PRODUCT", "AVERAGE"}) {
+            worth(with(MOST + " 2"), name + "(A1:B1)", "#num");
+            worth(with(MOST + " 2 =1/0"), name + "(A1:C1)", "#div");
+            worth(with(MOST + " =1/0 2"), name + "(A1:C1)", "#div");
+            worth(with("=1/0 " + MOST + " 2"), name + "(A1:C1)", "#div");
+            worth(with(MOST + " 2", "- -", "- =1/0"), name + "(A1:B3)", "#div");
+            worth(with(LEAST + " " + LEAST + " =1/0 =NA()"), name + "(A1:D1)", "#div");
+            worth(with(MOST + " 2 =NA() =1/0"), name + "(A1:D1)", "#none");
+            worth(with(MOST + " 2 =A1+B1 =1/0"), name + "(A1:D1)", "#num");
+            worth(with(MOST + " 2 =1/0"), name + "(A1:B1)", "#num");
+        }
+        worth(with(MOST + " 1 =1/0"), "SUM(A1:C1)", "#div");
+        worth(with(MOST + " 1 =1/0"), "AVERAGE(A1:C1)", "#div");
+        worth(with(MOST + " " + MOST + " =1/0"), "SUMIF(A1:C1," + MOST + ")", "#num");
     }
 
     private static void count() {

@@ -750,13 +750,15 @@ final class Model {
     }
 
     private static Object gathered(String name, List<Object> inside) {
-        BigInteger sum = BigInteger.ZERO;
-        BigInteger product = BigInteger.ONE;
-        List<Long> numbers = new ArrayList<>();
         for (Object value : inside) {
             if (value instanceof Err) {
                 return value;
             }
+        }
+        BigInteger sum = BigInteger.ZERO;
+        BigInteger product = BigInteger.ONE;
+        List<Long> numbers = new ArrayList<>();
+        for (Object value : inside) {
             if (value instanceof Long) {
                 numbers.add((Long) value);
                 sum = sum.add(BigInteger.valueOf((Long) value));
